@@ -40,6 +40,8 @@ public final class PromiseTests {
         tuneRefusesWrongInputs();
         reviveMakesReadyWithNoDeliveries();
         clearDropsMessagesAlone();
+        clearDropsMessagesThatAreOut();
+        fullBrokerAnswersEveryCall();
         stateOfMessages();
         readyCounts();
         peekFollowsTheOrder();
@@ -554,6 +556,43 @@ public final class PromiseTests {
         x.publish(0, 1, 0, 0);
         x.take(0, 0);
         due("clear: deliveries begin anew", x.refuse(0, 0), READY);
+    }
+
+    private static void clearDropsMessagesThatAreOut() {
+        LeasedMessages x = new LeasedMessages();
+        x.publish(0, 1, 0, 0);
+        x.publish(0, 1, 0, 0);
+        x.take(0, 0);
+        x.take(0, 0);
+        x.clear();
+        due("clear: no deadline is left", x.nextDeadline(), EMPTY);
+        x.publish(0, 1, 0, 0);
+        due("clear: none beside the new one", x.nextDeadline(), EMPTY);
+        due("clear: none comes back", x.pass(5), 0);
+        due("clear: not OUT any more", x.refuse(0, 1), NOT_OUT);
+        due("clear: the new one alone is ready", x.ready(0), 1);
+    }
+
+    private static void fullBrokerAnswersEveryCall() {
+        LeasedMessages x = new LeasedMessages();
+        x.tune(0, 5, 1);
+        for (int i = 0; i < 39; i++) {
+            x.publish(0, 1, 0, 0);
+        }
+        x.publish(0, 1, 1, 3);
+        due("full: peek first", x.peek(0, 0), 39);
+        due("full: peek last", x.peek(0, 39), 38);
+        due("full: peek behind the last", x.peek(0, 40), EMPTY);
+        due("full: ready", x.ready(0), 40);
+        due("full: take", x.take(0, 0), 39);
+        due("full: take", x.take(0, 0), 0);
+        due("full: nextDeadline", x.nextDeadline(), 5);
+        due("full: renew", x.renew(0, 39), 5);
+        due("full: lose", x.lose(0), 2);
+        due("full: revive", x.revive(0), 2);
+        due("full: pass", x.pass(3), 0);
+        due("full: the last one expires", x.state(39), DONE);
+        due("full: sum", x.sum(READY), 39);
     }
 
     private static void stateOfMessages() {
