@@ -646,6 +646,7 @@ public final class BoundaryTests {
         passBringsBackThenEndsLives();
         passZeroEndsALife();
         passCountsNoEndedLife();
+        onlyPassEndsALife();
     }
 
     private static void passLeastAndMost() {
@@ -776,6 +777,55 @@ public final class BoundaryTests {
         x.publish(0, 1, 0, 2);
         due("pass(2)", x.pass(2), 0);
         due("state", x.state(1), DONE);
+    }
+
+    // Message 0's life ended while it was OUT, message 1 is OUT with consumer 1 until time 13.
+    private static LeasedMessages lifeEndedWhileOut() {
+        LeasedMessages x = new LeasedMessages();
+        x.tune(1, 10, 3);
+        x.publish(0, 1, 0, 2);
+        x.publish(1, 2, 0, 0);
+        x.publish(2, 4, 0, 0);
+        x.take(0, 0);
+        x.pass(3);
+        x.take(1, 1);
+        x.refuse(0, 0);
+        return x;
+    }
+
+    private static void onlyPassEndsALife() {
+        about("pass: with a life it expires: see pass, and in no other call");
+        for (int call = 0; call < 14; call++) {
+            LeasedMessages x = lifeEndedWhileOut();
+            otherCall(x, call);
+            due("state(0) after call " + call, x.state(0), READY);
+            due("ready(0) after call " + call, x.ready(0), 1);
+            due("take(0, 2) after call " + call, x.take(0, 2), 0);
+            due("pass(0) while it is OUT", x.pass(0), 0);
+            due("state(0) OUT", x.state(0), OUT);
+            due("refuse", x.refuse(2, 0), READY);
+            due("pass(0) while it is READY", x.pass(0), 0);
+            due("state(0) at last", x.state(0), DONE);
+        }
+    }
+
+    private static void otherCall(LeasedMessages x, int call) {
+        switch (call) {
+            case 0 -> due("publish", x.publish(2, 8, 0, 0), 3);
+            case 1 -> due("take", x.take(2, 0), 2);
+            case 2 -> due("acknowledge", x.acknowledge(1, 1), 0);
+            case 3 -> due("refuse", x.refuse(1, 1), READY);
+            case 4 -> due("lose", x.lose(1), 1);
+            case 5 -> due("renew", x.renew(1, 1), 13);
+            case 6 -> due("tune", x.tune(0, 5, 3), 0);
+            case 7 -> due("revive", x.revive(0), 0);
+            case 8 -> due("state", x.state(0), READY);
+            case 9 -> due("ready", x.ready(0), 1);
+            case 10 -> due("peek", x.peek(0, 0), 0);
+            case 11 -> due("nextDeadline", x.nextDeadline(), 13);
+            case 12 -> due("sum", x.sum(READY), 5);
+            default -> due("pass(101)", x.pass(101), BAD_NUMBER);
+        }
     }
 
     // ---- Promises 9 and 10 ----

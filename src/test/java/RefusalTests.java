@@ -126,6 +126,23 @@ public final class RefusalTests {
         return x;
     }
 
+    // Message 0 is READY with more deliveries than its queue's limit now is, message 1 is DEAD with
+    // fewer: were one of them to come back once more, its state would change.
+    private static LeasedMessages retuned() {
+        LeasedMessages x = new LeasedMessages();
+        x.tune(1, 5, 1);
+        x.publish(0, 1, 0, 0);
+        x.publish(1, 2, 0, 0);
+        x.take(0, 0);
+        x.take(1, 0);
+        x.lose(0);
+        x.take(0, 0);
+        x.lose(0);
+        x.tune(0, 5, 1);
+        x.tune(1, 5, 3);
+        return x;
+    }
+
     private static LeasedMessages cleared() {
         LeasedMessages x = full();
         x.clear();
@@ -148,6 +165,9 @@ public final class RefusalTests {
         due("drained, consumer 0", x.lose(0), 2);
         due("drained, consumer 1", x.lose(1), 2);
         due("drained, consumer 2", x.lose(2), 1);
+        x = retuned();
+        due("retuned, state of 0", x.state(0), READY);
+        due("retuned, state of 1", x.state(1), DEAD);
         x = full();
         due("full, the last message", x.state(39), READY);
         due("full, no message after it", x.state(40), BAD_NUMBER);
@@ -295,9 +315,12 @@ public final class RefusalTests {
     private static void publishFull() {
         about("publish: 40 messages have been published: FULL; nothing changes then");
         for (int queue = 0; queue < 3; queue++) {
-            int to = queue;
-            refused(FULL, RefusalTests::full, "publish(" + to + ", 9, 3, 1)",
-                    x -> x.publish(to, 9, 3, 1));
+            for (int priority = 0; priority <= 3; priority++) {
+                int to = queue;
+                int of = priority;
+                refused(FULL, RefusalTests::full, "publish(" + to + ", 9, " + of + ", 1)",
+                        x -> x.publish(to, 9, of, 1));
+            }
         }
     }
 
@@ -365,6 +388,8 @@ public final class RefusalTests {
         }
         refused(NOT_OUT, RefusalTests::mixed, "acknowledge(2, 8)", x -> x.acknowledge(2, 8));
         refused(NOT_OUT, RefusalTests::mixed, "acknowledge(1, 8)", x -> x.acknowledge(1, 8));
+        refused(NOT_OUT, RefusalTests::retuned, "acknowledge(0, 0)", x -> x.acknowledge(0, 0));
+        refused(NOT_OUT, RefusalTests::retuned, "acknowledge(0, 1)", x -> x.acknowledge(0, 1));
         refused(NOT_OUT, RefusalTests::full, "acknowledge(0, 40)", x -> x.acknowledge(0, 40));
         refused(NOT_OUT, RefusalTests::fresh, "acknowledge(0, 0)", x -> x.acknowledge(0, 0));
         refused(NOT_OUT, RefusalTests::cleared, "acknowledge(0, 8)", x -> x.acknowledge(0, 8));
@@ -386,6 +411,8 @@ public final class RefusalTests {
         }
         refused(NOT_OUT, RefusalTests::mixed, "refuse(2, 8)", x -> x.refuse(2, 8));
         refused(NOT_OUT, RefusalTests::mixed, "refuse(1, 8)", x -> x.refuse(1, 8));
+        refused(NOT_OUT, RefusalTests::retuned, "refuse(0, 0)", x -> x.refuse(0, 0));
+        refused(NOT_OUT, RefusalTests::retuned, "refuse(0, 1)", x -> x.refuse(0, 1));
         refused(NOT_OUT, RefusalTests::full, "refuse(0, 40)", x -> x.refuse(0, 40));
         refused(NOT_OUT, RefusalTests::fresh, "refuse(0, 0)", x -> x.refuse(0, 0));
         refused(NOT_OUT, RefusalTests::cleared, "refuse(0, 8)", x -> x.refuse(0, 8));
@@ -397,6 +424,7 @@ public final class RefusalTests {
             String name = "lose(" + consumer + ")";
             refused(BAD_CONSUMER, RefusalTests::fresh, name, x -> x.lose(consumer));
             refused(BAD_CONSUMER, RefusalTests::mixed, name, x -> x.lose(consumer));
+            refused(BAD_CONSUMER, RefusalTests::retuned, name, x -> x.lose(consumer));
         }
     }
 
