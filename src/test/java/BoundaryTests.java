@@ -645,6 +645,7 @@ public final class BoundaryTests {
         passEndsNoLifeOfOthers();
         passBringsBackThenEndsLives();
         passZeroEndsALife();
+        lostAfterTheEndOfALife();
         passCountsNoEndedLife();
         onlyPassEndsALife();
     }
@@ -768,6 +769,26 @@ public final class BoundaryTests {
         due("state after pass, refused", x.state(0), DONE);
         due("state after pass, revived", x.state(1), DONE);
         due("state after pass, alive", x.state(2), READY);
+    }
+
+    private static void lostAfterTheEndOfALife() {
+        about("lose: all messages that it has OUT come back, READY even after the end of their life");
+        LeasedMessages x = new LeasedMessages();
+        x.publish(0, 1, 0, 1);
+        x.publish(1, 2, 0, 2);
+        x.publish(1, 4, 0, 3);
+        x.take(0, 0);
+        x.take(1, 0);
+        x.take(1, 1);
+        x.pass(2);
+        due("lose after the end of two lives", x.lose(0), 2);
+        due("lose before the end of a life", x.lose(1), 1);
+        due("sum(READY) before pass", x.sum(READY), 7);
+        due("take of one whose life has ended", x.take(0, 2), 0);
+        due("pass(0)", x.pass(0), 0);
+        due("state, OUT again", x.state(0), OUT);
+        due("state, READY until pass", x.state(1), DONE);
+        due("state, alive", x.state(2), READY);
     }
 
     private static void passCountsNoEndedLife() {
